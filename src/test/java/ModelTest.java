@@ -27,9 +27,34 @@ public final class ModelTest {
             compareLearning(random);
             compareOtherWays(text, random);
         }
+        compareHard();
         System.out.println("ends none " + ENDS[0] + ", proved " + ENDS[1] + ", unsafe " + ENDS[2]
                 + ", stuck " + ENDS[3] + ", full " + ENDS[4]);
         Due.end();
+    }
+
+    /** Systems that are learned long, in steps of a few rounds, with all ways compared. */
+    private static void compareHard() {
+        for (int i = 0; i < HardSystems.ALL.length && Due.wrong() < 20; i++) {
+            HardSystems.Hard hard = HardSystems.ALL[i];
+            where = "hard system " + i + ": ";
+            m = new Model(hard.text());
+            x = Tape.with(hard.text());
+            compareWorld();
+            m.care = hard.ways() / 2;
+            m.order = hard.ways() % 2;
+            x.ways(m.care, m.order);
+            for (int call = 0; call < 100 && m.end == 0; call++) {
+                due("learn(17)", x.learn(17), m.learn(17));
+                compareLearned();
+                compareTree();
+            }
+            due("ended()", x.ended(), hard.end());
+            ENDS[m.end]++;
+            compareTrace();
+            compareRows();
+            compareOtherWays(hard.text(), new Random(i));
+        }
     }
 
     private static void due(String call, int got, int want) {
