@@ -20,7 +20,8 @@ public final class ModelTest {
             String text = Systems.draw(random);
             where = "system " + seed + ": ";
             m = new Model(text);
-            x = new InvariantLearner();
+            // Most objects have had other systems ahead: nothing of those may be left.
+            x = seed % 5 == 0 || x == null ? new InvariantLearner() : x;
             Tape.feed(x, text);
             due("text", x.text(text.length()), m.lines);
             compareWorld();
@@ -28,6 +29,7 @@ public final class ModelTest {
             compareOtherWays(text, random);
         }
         compareHard();
+        compareLargest();
         System.out.println("ends none " + ENDS[0] + ", proved " + ENDS[1] + ", unsafe " + ENDS[2]
                 + ", stuck " + ENDS[3] + ", full " + ENDS[4]);
         Due.end();
@@ -54,6 +56,47 @@ public final class ModelTest {
             compareTrace();
             compareRows();
             compareOtherWays(hard.text(), new Random(i));
+        }
+    }
+
+    /** As much of all as there may be, and the last of 600 states a start, or a bad one. */
+    private static void compareLargest() {
+        String ranges = "var x 0 19;var y -4 10;var z 19 20;";
+        String last = "x=19 and y=10 and z=20;";
+        String first = "x=0 and y+4=0 and z=19;";
+        StringBuilder rest = new StringBuilder();
+        for (int i = 0; i < 3; i++) {
+            rest.append("start x=").append(9 + i).append(" and y=0;bad x=").append(5 * i)
+                    .append(" and y=9;");
+        }
+        for (int i = 0; i < 8; i++) {
+            rest.append("step if x+y>").append(i).append(";set z=39-z;set ")
+                    .append(i % 2 == 0 ? "x=x" : "y=y").append(i < 4 ? "+" : "-").append(1 + i / 3)
+                    .append(";");
+        }
+        for (int i = 0; i < 16; i++) {
+            rest.append("test ").append(i % 2 == 0 ? "x" : "y").append(i % 3 == 0 ? ">" : "<")
+                    .append(i).append(";");
+        }
+        String[] texts = {ranges + "start " + last + "bad " + first + rest,
+            ranges + "start " + first + "bad " + last + rest,
+            ranges + "start " + last + "bad " + first + "step if x>10;set x=x-1;test x<12;test x<9;"
+                    + "test y<2;",
+            ranges + "start " + first + "bad " + last + "step if x<9;set x=x+1;test x>7;test x>9;"};
+        for (String text : texts) {
+            where = "largest system: ";
+            for (int ways = 0; ways < 4; ways++) {
+                m = new Model(text);
+                Tape.feed(x, text);
+                due("text", x.text(text.length()), m.lines);
+                due("many(0)", x.many(0), 600);
+                compareWorld();
+                x.ways(ways / 2, ways % 2);
+                m.care = ways / 2;
+                m.order = ways % 2;
+                compareLearning(new Random(ways));
+                compareOtherWays(text, new Random(ways));
+            }
         }
     }
 
