@@ -2027,8 +2027,6 @@ public final class InvariantLearner {
                 if (!proves()) {
                     addCover(masks[k], bits[k], 1);
                     lengths[kept] = lengths[k];
-                    masks[kept] = masks[k];
-                    bits[kept] = bits[k];
                     for (int i = 0; i < lengths[k]; i++) {
                         entries[kept * MAX_TESTS + i] = entries[k * MAX_TESTS + i];
                     }

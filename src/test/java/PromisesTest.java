@@ -53,7 +53,6 @@ public final class PromisesTest {
         promise27();
         promise28();
         promise29();
-        fullByPoints();
         Due.end();
     }
 
@@ -61,13 +60,6 @@ public final class PromisesTest {
         InvariantLearner x = Tape.with(text);
         x.learn(100);
         return x;
-    }
-
-    private static void each(String call, int[] got, int... want) {
-        Due.is(call + ": how many", got.length, want.length);
-        for (int i = 0; i < Math.min(got.length, want.length); i++) {
-            Due.is(call + " [" + i + "]", got[i], want[i]);
-        }
     }
 
     private static int[] counts(InvariantLearner x) {
@@ -80,7 +72,7 @@ public final class PromisesTest {
 
     private static void promise1() {
         InvariantLearner x = new InvariantLearner();
-        each("1 count", counts(x), 0, 0, 0, 0, 0, 0, 0, 0, 0, 0, 0, 0);
+        Due.each("1 count", counts(x), 0, 0, 0, 0, 0, 0, 0, 0, 0, 0, 0, 0);
         Due.is("1 NONE", InvariantLearner.NONE, -1);
         Due.is("1 many(0)", x.many(0), 1);
         Due.is("1 many(1)", x.many(1), 0);
@@ -117,16 +109,16 @@ public final class PromisesTest {
         int before = Tape.feed(x, "step; and this is left out");
         Due.is("3 not so many", x.text(before + 1), -2);
         Due.is("3 the tape stays", x.count(11), before);
-        each("3 all stays", counts(x), 1, 1, 1, 1, 3, x.count(5), x.count(6), x.count(7), 2, 1, 1,
-                before);
+        Due.each("3 all stays", counts(x), 1, 1, 1, 1, 3, x.count(5), x.count(6), x.count(7), 2, 1,
+                1, before);
         Due.is("3 a fault", x.text(before), NONE);
-        each("3 all but the tape stays", counts(x), 1, 1, 1, 1, 3, x.count(5), x.count(6),
+        Due.each("3 all but the tape stays", counts(x), 1, 1, 1, 1, 3, x.count(5), x.count(6),
                 x.count(7), 2, 1, 1, 0);
         Due.is("3 many stays", x.many(0), 10);
         Due.is("3 there is a tree", x.count(7) > 0 ? 1 : 0, 1);
         Tape.feed(x, "step; and this is left out");
         Due.is("3 its first n bytes", x.text(5), 1);
-        each("3 all anew", counts(x), 0, 0, 0, 1, 0, 0, 0, 0, 0, 0, 0, 0);
+        Due.each("3 all anew", counts(x), 0, 0, 0, 1, 0, 0, 0, 0, 0, 0, 0, 0);
         Due.is("3 no end", x.ended(), 0);
         Due.is("3 nothing brought", x.brought(0), 0);
         Due.is("3 n 0", x.text(0), 0);
@@ -277,10 +269,10 @@ public final class PromisesTest {
 
     private static void promise10() {
         InvariantLearner x = Tape.with(PLANE);
-        each("10 many", new int[] {x.many(0), x.many(1), x.many(2), x.many(3), x.many(4),
+        Due.each("10 many", new int[] {x.many(0), x.many(1), x.many(2), x.many(3), x.many(4),
             x.many(5), x.many(6), x.many(-1)}, 6, 3, 1, 4, 1, 0, NONE, NONE);
         x = learned(LINE);
-        each("10 many", new int[] {x.many(0), x.many(1), x.many(2), x.many(3), x.many(4),
+        Due.each("10 many", new int[] {x.many(0), x.many(1), x.many(2), x.many(3), x.many(4),
             x.many(5)}, 10, 1, 1, 4, 1, 5);
     }
 
@@ -351,19 +343,19 @@ public final class PromisesTest {
     private static void promise14() {
         InvariantLearner x = Tape.with(LINE);
         int[][] want = {{2, 0, -2}, {1, 1, -2}, {3, 2, 3}, {0, -2, -2}};
-        each("14 ahead", broughtAll(x), 0, -2, -2);
+        Due.each("14 ahead", broughtAll(x), 0, -2, -2);
         for (int[] row : want) {
             x.learn(1);
-            each("14 brought", broughtAll(x), row);
+            Due.each("14 brought", broughtAll(x), row);
         }
         x.learn(1);
-        each("14 stays", broughtAll(x), 0, -2, -2);
+        Due.each("14 stays", broughtAll(x), 0, -2, -2);
         Due.is("14 another what", x.brought(3), NONE);
         Due.is("14 another what", x.brought(-1), NONE);
         x = Tape.with(LINE);
         x.learn(1);
         x.run(1, 3);
-        each("14 a run is no round", broughtAll(x), 2, 0, -2);
+        Due.each("14 a run is no round", broughtAll(x), 2, 0, -2);
     }
 
     private static int[] broughtAll(InvariantLearner x) {
@@ -508,7 +500,7 @@ public final class PromisesTest {
         for (int i = 0; i < 3; i++) {
             states[i] = x.point(x.trace(i), 0);
         }
-        each("20 way", states, 0, 1, 2);
+        Due.each("20 way", states, 0, 1, 2);
         Due.is("20 not so many", x.trace(3), -2);
         Due.is("20 not so many", x.trace(GREATEST_INT), -2);
         Due.is("20 below 0", x.trace(-1), NONE);
@@ -568,10 +560,10 @@ public final class PromisesTest {
         // 0 is a start, 2 is bad, 4 is a start: rows x<1, and not x<1 but x>2; both are needed.
         x = learned("var x 0 4;start x=0;start x=4;bad x=2;test x<1;test x>2;");
         Due.is("22 proved", x.ended(), 1);
-        each("22 rows", new int[] {x.rows(0, false), x.row(0, 0, false), x.row(1, 0, false),
+        Due.each("22 rows", new int[] {x.rows(0, false), x.row(0, 0, false), x.row(1, 0, false),
             x.row(1, 1, false)}, 2, 100, 0, 101);
         // Without x<1, x>2 alone still holds no bad one and, with the other row, all starts.
-        each("22 short", new int[] {x.rows(0, true), x.rows(1, true), x.row(0, 0, true),
+        Due.each("22 short", new int[] {x.rows(0, true), x.rows(1, true), x.row(0, 0, true),
             x.row(1, 0, true), x.row(1, 1, true)}, 2, 2, 100, 101, -2);
     }
 
@@ -634,16 +626,17 @@ public final class PromisesTest {
 
     private static void promise27() {
         InvariantLearner x = Tape.with(LINE);
-        each("27 bold", new int[] {x.ifLearned(0, 0, NONE, 0), x.ifLearned(0, 0, NONE, 1),
+        Due.each("27 bold", new int[] {x.ifLearned(0, 0, NONE, 0), x.ifLearned(0, 0, NONE, 1),
             x.ifLearned(0, 0, NONE, 2), x.ifLearned(0, 0, NONE, 3)}, 1, 4, 4, 3);
         // Without x<5 the points 2 and 7 can't be parted.
-        each("27 without a test", new int[] {x.ifLearned(0, 0, 1, 0), x.ifLearned(0, 0, 1, 1),
+        Due.each("27 without a test", new int[] {x.ifLearned(0, 0, 1, 0), x.ifLearned(0, 0, 1, 1),
             x.ifLearned(0, 0, 1, 2), x.ifLearned(0, 0, 1, 3)}, 3, 4, 4, 3);
         // Without x<2 it is x<5 at once.
-        each("27 without another", new int[] {x.ifLearned(0, 0, 0, 0), x.ifLearned(0, 0, 0, 1),
+        Due.each("27 without another", new int[] {x.ifLearned(0, 0, 0, 0), x.ifLearned(0, 0, 0, 1),
             x.ifLearned(0, 0, 0, 2), x.ifLearned(0, 0, 0, 3)}, 1, 3, 2, 3);
         // Wary: start 0; all is so; bad 7; x<2; the pair from 1 to 2; x<5.
-        each("27 wary", new int[] {x.ifLearned(1, 0, NONE, 0), x.ifLearned(1, 0, NONE, 1)}, 1, 4);
+        Due.each("27 wary", new int[] {x.ifLearned(1, 0, NONE, 0), x.ifLearned(1, 0, NONE, 1)},
+                1, 4);
         Due.is("27 no care", x.ifLearned(2, 0, NONE, 0), NONE);
         Due.is("27 no care", x.ifLearned(-1, 0, NONE, 0), NONE);
         Due.is("27 no order", x.ifLearned(0, 2, NONE, 0), NONE);
@@ -652,7 +645,7 @@ public final class PromisesTest {
         Due.is("27 no test", x.ifLearned(0, 0, -2, 0), NONE);
         Due.is("27 another what", x.ifLearned(0, 0, NONE, 4), NONE);
         Due.is("27 another what", x.ifLearned(0, 0, NONE, -1), NONE);
-        each("27 changes nothing", counts(x), 1, 1, 1, 1, 3, 0, 0, 0, 0, 0, 0, 0);
+        Due.each("27 changes nothing", counts(x), 1, 1, 1, 1, 3, 0, 0, 0, 0, 0, 0, 0);
         x.run(0, 9);
         x.learn(1);
         Due.is("27 from the beginning", x.ifLearned(0, 0, NONE, 2), 4);
@@ -671,90 +664,14 @@ public final class PromisesTest {
 
     private static void promise29() {
         InvariantLearner x = Tape.with(PLANE);
-        each("29 count", counts(x), 2, 2, 1, 2, 1, 0, 0, 0, 0, 0, 0, 0);
+        Due.each("29 count", counts(x), 2, 2, 1, 2, 1, 0, 0, 0, 0, 0, 0, 0);
         x = Tape.with(LINE);
         x.ways(1, 0);
         x.ways(0, 1);
         x.learn(100);
         x.feed(0, 0, 0, 0, 0);
-        each("29 count", counts(x), 1, 1, 1, 1, 3, 4, 1, 3, 4, 0, 1, 20);
+        Due.each("29 count", counts(x), 1, 1, 1, 1, 3, 4, 1, 3, 4, 0, 1, 20);
         Due.is("29 another what", x.count(12), NONE);
         Due.is("29 another what", x.count(-1), NONE);
-    }
-
-    /**
-     * States 0 to 199, one to the next, STARTS 0 and 100; from 199 a step leads to 219. What is
-     * beyond 239 is bad, and x<10 parts 0 to 199 from all others.
-     */
-    private static final String MANY = "var x 0 20;var y 0 19;start x=0 and y=0;start x=5 and y=0;"
-            + "step if x<10 and y<19;set y=y+1;step if x<9 and y=19;set y=0;set x=x+1;"
-            + "step if x=9 and y=19;set x=10;bad x>11;test x<10;test x<11;";
-
-    /** A system with so many POINTS, the first states, each told GOOD by a run. */
-    private static InvariantLearner filled(int points) {
-        InvariantLearner x = Tape.with(MANY);
-        int second = 0;
-        while (((second * 1103515245L + 12345) % 2147483648L) / 65536 % 2 == 0) {
-            second++;
-        }
-        for (int p = 0; p < points; p++) {
-            Due.is("full: run", x.run(p < 100 ? 0 : second, 99), p);
-            Due.is("full: state", x.point(p, 0), p);
-        }
-        return x;
-    }
-
-    /** END 4, by POINTS. */
-    private static void fullByPoints() {
-        InvariantLearner x = filled(200);
-        Due.is("full: a run that brings none", x.run(0, 99), -2);
-        Due.is("full: no end", x.ended(), 0);
-        Due.is("full: learn", x.learn(5), 1);
-        Due.is("full: end", x.ended(), 4);
-        Due.is("full: the tree is the one that was fitted", x.node(0, 4), 200);
-        Due.is("full: nothing came", x.count(5), 200);
-        Due.is("full: nothing brought", x.brought(0), 0);
-        Due.is("full: nothing brought", x.brought(1), -2);
-        Due.is("full: no rounds", x.learn(5), 0);
-        Due.is("full: no runs", x.run(0, 0), NONE);
-        Due.is("full: no trace", x.trace(0), NONE);
-        Due.is("full: not proved", x.rows(0, true), -2);
-        // 199 states and a bad one: then neither of the pair's points finds a place.
-        x = filled(199);
-        Due.is("full: the bad one", x.learn(1), 1);
-        Due.is("full: the bad one", x.brought(0), 2);
-        Due.is("full: its point", x.brought(1), 199);
-        Due.is("full: a run where one more must come", runsBeyond(x), NONE);
-        fullPair(x, 200);
-        // 198: one of the pair's points would find a place, but both are asked ahead.
-        x = filled(198);
-        x.learn(1);
-        fullPair(x, 199);
-        // 197: both come.
-        x = filled(197);
-        Due.is("not full: learn", x.learn(2), 2);
-        Due.is("not full: no end", x.ended(), 0);
-        Due.is("not full: pair", x.brought(0), 3);
-        Due.is("not full: points", x.count(5), 200);
-        // Where all are points already, one more may be told and paired.
-        Due.is("not full: proved in the end", x.learn(100), 1);
-        Due.is("not full: proved in the end", x.ended(), 1);
-    }
-
-    private static int runsBeyond(InvariantLearner x) {
-        int least = 0;
-        for (int seed = 0; seed < 50; seed++) {
-            least = Math.min(least, x.run(seed, 100) == NONE ? NONE : 0);
-        }
-        return least;
-    }
-
-    private static void fullPair(InvariantLearner x, int points) {
-        Due.is("full pair: learn", x.learn(5), 1);
-        Due.is("full pair: end", x.ended(), 4);
-        Due.is("full pair: no pair", x.count(6), 0);
-        Due.is("full pair: no point", x.count(5), points);
-        Due.is("full pair: the tree is the one that was fitted", x.node(0, 0), 2);
-        Due.is("full pair: nothing brought", x.brought(0), 0);
     }
 }
