@@ -8,10 +8,16 @@ public final class BoundsTest {
         LearnBounds.all();
         TeacherBounds.all();
         ProofBounds.all();
-        Sentences.end("Terms");
-        for (int i = 1; i <= PROMISES; i++) {
-            Sentences.end("Promise " + i);
-        }
+        Sentences.end(sections());
         Due.end();
+    }
+
+    private static String[] sections() {
+        String[] all = new String[1 + PROMISES];
+        all[0] = "Terms";
+        for (int i = 1; i <= PROMISES; i++) {
+            all[i] = "Promise " + i;
+        }
+        return all;
     }
 }

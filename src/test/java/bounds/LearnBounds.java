@@ -143,6 +143,86 @@ final class LearnBounds {
         Due.same("tree", Show.tree(x), "t0(+,t1(-,+))");
         Due.same("parted on the other side", Show.node(x, 2), "2 1 3 4 2 1 4");
         largeTrees();
+        deepWhereItDoesNotHold();
+        deepWhereItHolds();
+    }
+
+    /** START 0 to 15, BAD 16; each of sixteen TESTS holds for one START. */
+    private static void deepWhereItDoesNotHold() {
+        StringBuilder text = new StringBuilder("var x 0 16;start x<16;bad x=16;");
+        StringBuilder tree = new StringBuilder("-");
+        for (int t = 0; t < 16; t++) {
+            text.append("test x=").append(t).append(";");
+            tree.insert(0, "t" + (15 - t) + "(+,").append(")");
+        }
+        InvariantLearner x = after(text.toString(), 0, 100);
+        Due.is("END", x.ended(), 1);
+        Due.is("rounds: a BAD one, sixteen STARTS, one more", x.count(8), 18);
+        Due.same("tree", Show.tree(x), tree.toString());
+        Due.same("the deepest", Show.node(x, 32), "0 -2 -2 -2 1 16 1");
+        Due.is("held", x.many(5), 16);
+        Due.is("tests of all rows", x.rows(1, false), 136);
+        Due.is("the last test of the last row", x.row(15, 15, false), 115);
+        Due.is("there is none behind it", x.row(15, 16, false), -2);
+        Due.is("tests of all shorter rows", x.rows(1, true), 16);
+        Due.is("held by these", x.shortMany(), 16);
+    }
+
+    /**
+     * A ring of sixteen points, told GOOD by runs, round the BAD one. Each TEST is a line that
+     * holds for all of these but one of the ring: sixteen are needed to leave the BAD one alone.
+     */
+    private static void deepWhereItHolds() {
+        int[][] ways = {{1, 0}, {2, 1}, {1, 1}, {1, 2}, {0, 1}, {-1, 2}, {-1, 1}, {-2, 1},
+            {-1, 0}, {-2, -1}, {-1, -1}, {-1, -2}, {0, -1}, {1, -2}, {1, -1}, {2, -1}};
+        StringBuilder text = new StringBuilder("var x 0 9;var y 0 9;start 1=1;bad x=4 and y=5;");
+        int[] ring = new int[16];
+        int px = 4;
+        int py = 0;
+        for (int i = 0; i < 16; i++) {
+            int[] next = ways[(i + 1) % 16];
+            px += ways[i][0];
+            py += ways[i][1];
+            ring[i] = 10 * px + py;
+            // What is right of the way to this point and right of the way from it, together.
+            int a = ways[i][1] + next[1];
+            int b = -ways[i][0] - next[0];
+            text.append("test 20").append(signed(a, "x")).append(signed(b, "y")).append("<")
+                    .append(20 + a * px + b * py).append(";");
+        }
+        InvariantLearner x = Tape.with(text.toString());
+        for (int i = 0; i < 16; i++) {
+            Due.is("run", x.run(seedOf(ring[i], 100), 0), i);
+            Due.is("its state", x.point(i, 0), ring[i]);
+        }
+        x.learn(1);
+        Due.same("the BAD one", Show.brought(x), "2 16 -2");
+        for (int t = 0; t < 16; t++) {
+            Due.is("cost of test " + t, x.cost(t), 60);
+        }
+        x.learn(1);
+        StringBuilder tree = new StringBuilder("-");
+        for (int t = 15; t >= 0; t--) {
+            tree.insert(0, "t" + t + "(").append(",+)");
+        }
+        Due.same("tree", Show.tree(x), tree.toString());
+        Due.is("depth of the BAD one", x.node(16, 5), 16);
+        Due.is("the last test of the first row", x.row(0, 15, false), 15);
+        Due.is("the first test of the last row", x.row(15, 0, false), 0);
+        Due.is("it has one", x.row(15, 1, false), -2);
+    }
+
+    private static String signed(int factor, String name) {
+        return (factor < 0 ? "-" : "+") + Math.abs(factor) + "*" + name;
+    }
+
+    /** A seed by which the START of this number is drawn first. */
+    private static int seedOf(int start, int starts) {
+        int seed = 0;
+        while (((seed * 1103515245L + 12345) % 2147483648L) / 65536 % starts != start) {
+            seed++;
+        }
+        return seed;
     }
 
     /** Trees of more than 300 NODES: all POINTS and all STATES come to just one leaf each. */

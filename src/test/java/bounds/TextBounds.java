@@ -26,6 +26,7 @@ final class TextBounds {
         theLength();
         tooMuch();
         toldAlready();
+        calls();
         promise1();
         promise2();
         promise3();
@@ -499,6 +500,24 @@ final class TextBounds {
         wrong("var x 0 1;var y 0 1;step;set x=0;set y=0;set ^y=1;", 3);
         wrong("var x 0 1;step;set x=0;test x=0;set ^x=0;", 3);
         wrong("var x 0 1;step;step;set x=0;set ^x", 3);
+    }
+
+    private static void calls() {
+        Sentences.by("What it is",
+                "An object is used for at most 512 calls after it has been made;");
+        InvariantLearner x = used();
+        // used() has made four feeds, text, ways and learn: 7 calls.
+        for (int call = 8; call <= 511; call++) {
+            Due.is("call " + call, x.run(call, 0), -2);
+        }
+        Due.is("the 512th call", x.learn(100), 1);
+        x = new InvariantLearner();
+        for (int call = 1; call <= 510; call += 2) {
+            Tape.feed(x, "step;");
+            Due.is("call " + (call + 1), x.text(20), 1);
+        }
+        Tape.feed(x, "step;step;");
+        Due.is("the 512th call", x.text(20), 2);
     }
 
     private static void promise1() {
